@@ -1,3 +1,4 @@
+/** Seasonal adjustment of a time series in integer arithmetic. */
 public final class SeasonalAdjuster {
     public static final int NONE = -1;
     public static final int ADDITIVE = 0, MULTIPLICATIVE = 1;

@@ -40,14 +40,15 @@ public final class RandomRunsTest {
     }
 
     // Half of the runs begin with a long series, so that the readers have something to read.
+    // Spikes thirteen entries apart make all the ratios 0 if the period is 12.
     private void prepare() {
         if (random.nextBoolean()) {
             return;
         }
-        compare("setPeriod", 2 + random.nextInt(11), 0);
+        compare("setPeriod", run % 9 == 7 ? 12 : 2 + random.nextInt(11), 0);
         compare("setMode", random.nextInt(2), 0);
         compare("setRounds", random.nextInt(6), 0);
-        int length = random.nextInt(73);
+        int length = run % 9 == 7 ? 71 : random.nextInt(73);
         for (int i = 0; i < length; i++) {
             compare("append", someValue(), 0);
         }
@@ -87,13 +88,13 @@ public final class RandomRunsTest {
         return least + random.nextInt(Math.max(1, greatest - least + 1));
     }
 
-    // Each run has a flavour of its own: small, wide, positive, extreme, or a seasonal pattern.
+    // Each run has a flavour of its own: small, wide, positive, extreme, seasonal, with spikes.
     private int someValue() {
         if (random.nextInt(60) == 0) {
             int[] edges = {-1000001, -1000000, -1, 0, 1, 1000000, 1000001, Integer.MIN_VALUE, Integer.MAX_VALUE};
             return edges[random.nextInt(edges.length)];
         }
-        switch (run % 8) {
+        switch (run % 9) {
             case 0: return random.nextInt(9) - 4;
             case 1: return random.nextInt(2000001) - 1000000;
             case 2: return 1 + random.nextInt(1000000);
@@ -101,6 +102,7 @@ public final class RandomRunsTest {
             case 4: return random.nextInt(6) == 0 ? 1000000 : 1 + random.nextInt(3);
             case 5: return 1000 + 300 * (program.size() % 3) + random.nextInt(20) + (random.nextInt(9) == 0 ? 500 : 0);
             case 6: return 500 - 7 * program.size() + (random.nextInt(12) == 0 ? 90 : 0);
+            case 7: return program.size() % 13 == 6 ? 1000000 : 1 + random.nextInt(2);
             default: return random.nextInt(3) == 0 ? 5 : 100 + random.nextInt(30);
         }
     }
