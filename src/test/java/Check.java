@@ -1,3 +1,4 @@
+import java.util.function.IntToLongFunction;
 import java.util.function.LongSupplier;
 
 /** Counts and prints the answers that are not the ones due. */
@@ -16,6 +17,14 @@ final class Check {
         checks++;
         if (!got.equals(due)) {
             complain(what + " answered " + got + ", due is " + due);
+        }
+    }
+
+    /** The answers for the arguments from on, one after the other. */
+    void row(String what, IntToLongFunction reader, int from, long... due) {
+        for (int i = 0; i < due.length; i++) {
+            int argument = from + i;
+            same(what + "(" + argument + ")", answer(() -> reader.applyAsLong(argument)), Long.toString(due[i]));
         }
     }
 

@@ -3,6 +3,8 @@ import java.util.Random;
 /** Long runs of calls, the same ones every time, against the reference model. */
 public final class RandomRunsTest {
     private static final int RUNS = 400;
+    // As many calls as the document allows an object, none of them uncounted.
+    private static final int CALLS = 512;
     private static final String[] READERS = {"size", "value", "missing", "canDecompose", "firstTrend", "deviation",
         "weight", "spread", "factor", "adjusted", "trend", "irregular", "outlierCount", "outlier", "seasonOfRank",
         "forecast", "daysEffect", "digest"};
@@ -28,7 +30,7 @@ public final class RandomRunsTest {
             model = new ReferenceModel();
             number = 0;
             prepare();
-            while (number < 500) {
+            while (number < CALLS - 1) {
                 boolean write = random.nextInt(3) == 0;
                 String[] names = write ? WRITERS : READERS;
                 String method = names[random.nextInt(names.length)];
@@ -69,7 +71,7 @@ public final class RandomRunsTest {
             case "setRounds": return around(0, 5);
             case "forecast": return around(0, 25);
             case "missing": case "outlier": return random.nextInt(6) - 1;
-            default: return around(0, program.size() - 1);
+            default: return around(0, model.size() - 1);
         }
     }
 
@@ -100,9 +102,9 @@ public final class RandomRunsTest {
             case 2: return 1 + random.nextInt(1000000);
             case 3: return random.nextBoolean() ? 1000000 : -1000000;
             case 4: return random.nextInt(6) == 0 ? 1000000 : 1 + random.nextInt(3);
-            case 5: return 1000 + 300 * (program.size() % 3) + random.nextInt(20) + (random.nextInt(9) == 0 ? 500 : 0);
-            case 6: return 500 - 7 * program.size() + (random.nextInt(12) == 0 ? 90 : 0);
-            case 7: return program.size() % 13 == 6 ? 1000000 : 1 + random.nextInt(2);
+            case 5: return 1000 + 300 * (model.size() % 3) + random.nextInt(20) + (random.nextInt(9) == 0 ? 500 : 0);
+            case 6: return 500 - 7 * model.size() + (random.nextInt(12) == 0 ? 90 : 0);
+            case 7: return model.size() % 13 == 6 ? 1000000 : 1 + random.nextInt(2);
             default: return random.nextInt(3) == 0 ? 5 : 100 + random.nextInt(30);
         }
     }

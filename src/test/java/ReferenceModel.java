@@ -32,6 +32,10 @@ final class ReferenceModel {
         }
     }
 
+    int size() {
+        return n();
+    }
+
     private BigInteger call(String method, int a, int b) {
         switch (method) {
             case "setPeriod": return setPeriod(a);
